@@ -926,6 +926,8 @@ public final class LessonPurses {
         final int[] prices = new int[MAX_LESSONS];
         int stride = 5;
         final int[] excess = new int[MAX_LESSONS];
+        /** The first rank that could be paid when somebody picked last; all before it are too dear. */
+        int firstPaid;
         /** Prices together of each bundle of the first five lessons, and of the last five. */
         private final int[] lowCosts = new int[HALF_BUNDLES];
         private final int[] highCosts = new int[HALF_BUNDLES];
@@ -952,12 +954,19 @@ public final class LessonPurses {
 
         /** Rank of what somebody buys; NONE: nothing lawful can be paid. */
         int pick(Person who) {
+            return pickFrom(who, 0);
+        }
+
+        /** Likewise, where all that ranks before a place is known to be too dear. */
+        int pickFrom(Person who, int start) {
             int found = NONE;
             int least = 0;
-            for (int rank = 0; rank < who.ranks; rank++) {
+            firstPaid = who.ranks;
+            for (int rank = start; rank < who.ranks; rank++) {
                 if (found != NONE && who.worthAt(rank) < who.worthAt(found)) return found;
                 int cost = costOf(who.bundleAt(rank));
                 if (cost <= who.money && (found == NONE || cost < least)) {
+                    if (found == NONE) firstPaid = rank;
                     found = rank;
                     least = cost;
                 }
@@ -1145,6 +1154,8 @@ public final class LessonPurses {
         final int[] held = new int[MAX_PEOPLE];
         final int[] spare = new int[MAX_LESSONS];
         private final int[] row = new int[MAX_LESSONS];
+        /** While prices grow: for each the ranks below this are too dear, and stay so. */
+        private final int[] starts = new int[MAX_PEOPLE];
         private final int[] bids = new int[COUPLES];
 
         Ways(Plan plan, Crowd crowd, Market market) {
@@ -1179,13 +1190,15 @@ public final class LessonPurses {
 
         private void byPrices() {
             market.mark(market.prices);
+            Arrays.fill(starts, 0);
             for (int one = 0; one < crowd.size; one++) buyFor(one);
             countSpare();
         }
 
         private void buyFor(int one) {
             Person who = crowd.people[one];
-            held[one] = who.bundleAt(market.pick(who));
+            held[one] = who.bundleAt(market.pickFrom(who, starts[one]));
+            starts[one] = market.firstPaid;
         }
 
         private void mended() {

@@ -12,13 +12,16 @@ public final class RandomRunsTest {
     private final PlainPurses plain = new PlainPurses();
     private final StringBuilder story = new StringBuilder();
     private boolean same = true;
+    /** In a rich run nearly all calls are as told, and everybody wants something. */
+    private final boolean rich;
 
     private RandomRunsTest(long seed) {
         random = new Random(seed);
+        rich = seed % 3 != 0;
     }
 
     public static void main(String[] args) {
-        int runs = args.length > 0 ? Integer.parseInt(args[0]) : 400;
+        int runs = args.length > 0 ? Integer.parseInt(args[0]) : 240;
         int from = args.length > 1 ? Integer.parseInt(args[1]) : 0;
         for (int seed = from; seed < from + runs; seed++) {
             RandomRunsTest run = new RandomRunsTest(seed);
@@ -33,6 +36,7 @@ public final class RandomRunsTest {
         int people = random.nextInt(9);
         if (random.nextInt(3) == 0) { lessons = random.nextInt(4); people = random.nextInt(4); }
         if (random.nextInt(3) == 0) { lessons = random.nextInt(7); people = random.nextInt(4); }
+        if (rich) { lessons = Math.max(2, lessons); people = Math.max(2, people); }
         int hours = random.nextBoolean() ? 40 : 12;
         for (int i = 0; i < lessons; i++) {
             int from = random.nextInt(hours);
@@ -45,11 +49,16 @@ public final class RandomRunsTest {
             int purse = random.nextInt(4) == 0 ? random.nextInt(201) : 90 + random.nextInt(10);
             int done = random.nextInt(3) == 0 ? random.nextInt(1024) : 0;
             note("person", real.person(purse, done), plain.person(purse, done), purse, done);
-            if (random.nextInt(6) != 0) tellWish(i);
+            if (rich || random.nextInt(6) != 0) tellWish(i);
         }
+        if (rich) tellWish(-100);
         for (int i = random.nextInt(8); i > 0; i--) tellPrice();
+        for (int i = 0; rich && i < people; i++) {
+            int given = lawfulFor(i);
+            note("give", real.give(i, given), plain.give(i, given), i, given);
+        }
         for (int i = 0; i < 110 && same; i++) {
-            if (random.nextInt(6) == 0) tellSomething();
+            if (random.nextInt(rich ? 12 : 6) == 0) tellSomething();
             else askSomething();
         }
     }
@@ -60,7 +69,7 @@ public final class RandomRunsTest {
         if (got != want) {
             same = false;
             story.append(" but ").append(want);
-        } 
+        }
     }
 
     private void note(String call, boolean got, boolean want, int... with) {
@@ -69,7 +78,7 @@ public final class RandomRunsTest {
 
     /** Mostly a number that is told, sometimes one beside it. */
     private int near(int many) {
-        return random.nextInt(25) == 0 ? random.nextInt(14) - 2 : many == 0 ? 0 : random.nextInt(many);
+        return random.nextInt(rich ? 60 : 25) == 0 ? random.nextInt(14) - 2 : many == 0 ? 0 : random.nextInt(many);
     }
 
     private int someLesson() {
@@ -87,6 +96,12 @@ public final class RandomRunsTest {
         return random.nextInt(6) == 0 ? bits : bits & (1 << real.count(0)) - 1;
     }
 
+    private int lawfulFor(int person) {
+        int bits = someBundle();
+        for (int i = 0; i < 20 && plain.bars(person, bits) != 0; i++) bits = someBundle() & random.nextInt(1024);
+        return bits;
+    }
+
     private int someWay() {
         return random.nextInt(25) == 0 ? random.nextInt(9) - 2 : random.nextInt(6);
     }
@@ -99,7 +114,7 @@ public final class RandomRunsTest {
 
     private void tellPrice() {
         int l = someLesson();
-        int much = random.nextInt(8) == 0 ? random.nextInt(260) - 4 : random.nextInt(70);
+        int much = random.nextInt(8) == 0 ? random.nextInt(260) - 4 : random.nextInt(rich ? 120 : 70);
         note("price", real.price(l, much), plain.price(l, much), l, much);
     }
 
@@ -157,7 +172,10 @@ public final class RandomRunsTest {
                 note("must", real.must(by), plain.must(by), by);
             }
             case 9, 10 -> note("why", real.why(p, l, two), plain.why(p, l, two), p, l, two);
-            case 11 -> { boolean told = real.give(p, b); note("give", told, plain.give(p, b), p, b); }
+            case 11 -> {
+                int given = rich ? lawfulFor(p) : b;
+                note("give", real.give(p, given), plain.give(p, given), p, given);
+            }
             case 12 -> note("has", real.has(way, p), plain.has(way, p), way, p);
             case 13 -> note("has", real.has(1, p), plain.has(1, p), 1, p);
             case 14 -> note("left", real.left(way, l), plain.left(way, l), way, l);
@@ -182,17 +200,38 @@ public final class RandomRunsTest {
     private void tellWish(int person) {
         StringBuilder text = new StringBuilder();
         int statements = random.nextInt(12) == 0 ? 14 + random.nextInt(4) : 1 + random.nextInt(4);
-        for (int i = 0; i < statements; i++) statement(text, statements > 5);
-        if (random.nextInt(6) == 0) spoil(text);
+        if (rich) richText(text);
+        else for (int i = 0; i < statements; i++) statement(text, statements > 5);
+        if (!rich && random.nextInt(6) == 0) spoil(text);
         int length = Math.min(text.length(), 400);
-        if (random.nextInt(8) == 0) length = random.nextInt(length + 1);
-        text.setLength(Math.max(length, 0));
+        if (!rich && random.nextInt(8) == 0) length = random.nextInt(length + 1);
+        text.setLength(length);
         story.append("\n\"").append(text).append('"');
         for (int at = 0; at < length; at += 20) feedTwenty(text, at);
-        int n = random.nextInt(30) == 0 ? length + 20 : length;
+        if (random.nextInt(30) == 0) note("wish", real.wish(0, length + 20), plain.wish(0, length + 20), 0, length + 20);
+        int n = length;
         if (person == -100) note("falsely", real.falsely(n), plain.falsely(n), n);
         else note("wish", real.wish(person, n), plain.wish(person, n), person, n);
         note("fault", real.fault(), plain.fault());
+    }
+
+    private void richText(StringBuilder text) {
+        text.append("add ");
+        int scale = random.nextBoolean() ? 90 : 6;
+        for (int l = 0; l < real.count(0); l++) {
+            if (l > 0) text.append(random.nextInt(7) == 0 ? "-" : "+");
+            text.append(random.nextInt(scale)).append("*has ").append(l);
+        }
+        text.append(';');
+        if (random.nextInt(3) == 0) {
+            text.append("add ").append(random.nextInt(60)).append(" if has ").append(random.nextInt(10));
+            text.append("+has ").append(random.nextInt(10)).append("=2;");
+        }
+        if (random.nextInt(3) == 0) text.append("add 0-gaps/").append(random.nextInt(4)).append(';');
+        if (random.nextInt(4) == 0) text.append("never if hours>").append(3 + random.nextInt(8)).append(';');
+        if (random.nextInt(8) == 0) text.append("never if count<").append(1 + random.nextInt(2)).append(';');
+        if (random.nextInt(8) == 0) text.append("never if first<").append(random.nextInt(6)).append(" and count>0;");
+        if (random.nextInt(8) == 0) text.append("never if purse>95 and has ").append(random.nextInt(10)).append("=1;");
     }
 
     private void feedTwenty(StringBuilder text, int at) {

@@ -150,7 +150,7 @@ public final class LessonPurses {
         if (!crowd.isPerson(person) || what < 0 || what > 2) return NO_WORTH;
         Person who = crowd.freshened(person);
         market.mark(market.prices);
-        int rank = market.pick(who);
+        int rank = market.pick(who, 0);
         if (what == 0) return who.bundleAt(rank);
         return what == 1 ? market.costOf(who.bundleAt(rank)) : who.worthAt(rank);
     }
@@ -203,7 +203,7 @@ public final class LessonPurses {
         Person who = crowd.freshened(person);
         market.mark(market.prices);
         int least = market.leastBetter(who, 1 << lesson);
-        boolean bought = contains(who.bundleAt(market.pick(who)), lesson);
+        boolean bought = contains(who.bundleAt(market.pick(who, 0)), lesson);
         if (what == 1) return bought || least == NONE ? NONE : least - who.money;
         if (bought) return 0;
         if (!who.hasLawfulWith(1 << lesson)) return 1;
@@ -744,7 +744,7 @@ public final class LessonPurses {
                 case Tape.LAST: push(last); break;
                 case Tape.GAPS: push(last - first - hours); break;
                 case Tape.PURSE: push(money); break;
-                default: joinTwo(kind); break;
+                default: joinTwo(kind, pop(), pop()); break;
             }
         }
 
@@ -752,24 +752,20 @@ public final class LessonPurses {
             if (holds) total = Math.max(-MAX_WORTH, Math.min(MAX_WORTH, total + value));
         }
 
-        private void joinTwo(int kind) {
-            int right = pop();
-            int left = pop();
+        private void joinTwo(int kind, int right, int left) {
+            long joined;
             switch (kind) {
-                case '+': push(hold((long) left + right)); break;
-                case '-': push(hold((long) left - right)); break;
-                case '*': push(hold((long) left * right)); break;
-                case '/': push(right == 0 ? 0 : left / right); break;
-                case '<': push(left < right ? 1 : 0); break;
-                case '>': push(left > right ? 1 : 0); break;
-                case '=': push(left == right ? 1 : 0); break;
-                case Tape.AND: push(left & right); break;
-                default: push(left | right); break;
+                case '+': joined = (long) left + right; break;
+                case '-': joined = (long) left - right; break;
+                case '*': joined = (long) left * right; break;
+                case '/': joined = right == 0 ? 0 : left / right; break;
+                case '<': joined = left < right ? 1 : 0; break;
+                case '>': joined = left > right ? 1 : 0; break;
+                case '=': joined = left == right ? 1 : 0; break;
+                case Tape.AND: joined = left & right; break;
+                default: joined = left | right; break;
             }
-        }
-
-        private static int hold(long value) {
-            return (int) Math.max(-HELD, Math.min(HELD, value));
+            push((int) Math.max(-HELD, Math.min(HELD, joined)));
         }
     }
 
@@ -952,13 +948,11 @@ public final class LessonPurses {
             return lowCosts[bundle & HALF_BUNDLES - 1] + highCosts[bundle >> HALF & HALF_BUNDLES - 1];
         }
 
-        /** Rank of what somebody buys; NONE: nothing lawful can be paid. */
-        int pick(Person who) {
-            return pickFrom(who, 0);
-        }
-
-        /** Likewise, where all that ranks before a place is known to be too dear. */
-        int pickFrom(Person who, int start) {
+        /**
+         * Rank of what somebody buys; NONE: nothing lawful can be paid. All that ranks before start is known
+         * to be too dear.
+         */
+        int pick(Person who, int start) {
             int found = NONE;
             int least = 0;
             firstPaid = who.ranks;
@@ -976,7 +970,7 @@ public final class LessonPurses {
 
         /** The least cost of what has these lessons and is of more worth than what is bought; NONE: none. */
         int leastBetter(Person who, int wanted) {
-            int better = who.betterThan(who.worthAt(pick(who)));
+            int better = who.betterThan(who.worthAt(pick(who, 0)));
             int least = NONE;
             for (int rank = 0; rank < better; rank++) {
                 int bundle = who.bundleAt(rank);
@@ -987,7 +981,7 @@ public final class LessonPurses {
 
         /** How many others of just the worth of what is bought could be paid; NONE: nothing can. */
         int alike(Person who) {
-            int found = pick(who);
+            int found = pick(who, 0);
             if (found == NONE) return NONE;
             int others = 0;
             for (int rank = 0; rank < who.ranks; rank++) {
@@ -1003,7 +997,7 @@ public final class LessonPurses {
             for (int lesson = 0; lesson < plan.size; lesson++) excess[lesson] = -plan.seats[lesson];
             for (int one = 0; one < crowd.size; one++) {
                 Person who = crowd.people[one];
-                int bundle = who.bundleAt(pick(who));
+                int bundle = who.bundleAt(pick(who, 0));
                 for (int lesson = 0; lesson < plan.size; lesson++) {
                     if (contains(bundle, lesson)) excess[lesson]++;
                 }
@@ -1132,7 +1126,7 @@ public final class LessonPurses {
             for (int much = 0; much <= MAX_PRICE; much++) {
                 trial[lesson] = much;
                 market.mark(trial);
-                if (!contains(who.bundleAt(market.pick(who)), lesson)) return much;
+                if (!contains(who.bundleAt(market.pick(who, 0)), lesson)) return much;
             }
             return NONE;
         }
@@ -1197,7 +1191,7 @@ public final class LessonPurses {
 
         private void buyFor(int one) {
             Person who = crowd.people[one];
-            held[one] = who.bundleAt(market.pickFrom(who, starts[one]));
+            held[one] = who.bundleAt(market.pick(who, starts[one]));
             starts[one] = market.firstPaid;
         }
 

@@ -80,6 +80,12 @@ public final class FairnessTest {
         wasted("for nothing", x, 5, 0, 1, 10, 2);
         x.give(0, 6);
         wasted("it's there already", x, 5);
+        Check.wish(x, 1, "add 20*has 0+10*has 1-5*has 2;");
+        wasted("it's there already, though it's a burden", x, 5);
+        Check.wish(x, 0, "add 20*has 1-5*has 2;");
+        Check.wish(x, 1, "add 20*has 0+has 2;");
+        wasted("it's there already, though it's a burden", x, 5);
+        Check.wish(x, 0, "add 10*has 0+20*has 1+has 2;");
         x.give(0, 2);
         Check.wish(x, 1, "add 20*has 0+10*has 1+has 2;");
         wasted("the other one loses", x, 5);

@@ -10,6 +10,7 @@ public final class MarketTest {
         fitEnds();
         fitTogether();
         fitPrefersTheFirst();
+        fitKeepsEight();
         settle();
         must();
         mustOfThree();
@@ -201,6 +202,15 @@ public final class MarketTest {
         Check.due("square", x.fit(1, 0), 5);
     }
 
+    /** Here it would end behind 20 steps with seven rows kept, behind 16 with nine. */
+    private static void fitKeepsEight() {
+        LessonPurses x = apart(1, 1, 1);
+        person(x, 37, "add 9*has 0+1*has 1+9*has 2;");
+        person(x, 22, "add 8*has 0+4*has 1+3*has 2;");
+        Check.due("went on", x.fit(60, 1), 60);
+        Check.due("square", x.fit(60, 0), 1);
+    }
+
     private static void settle() {
         LessonPurses x = apart(1, 1);
         person(x, 100, "add 10*has 0;");
@@ -209,6 +219,8 @@ public final class MarketTest {
         Check.due("settle(0)", x.settle(0), false);
         Check.due("settle(61)", x.settle(61), false);
         Check.due("nothing done", x.count(7), 3);
+        Check.due("settle(1)", x.settle(1), true);
+        Check.due("the row for nobody comes down", x.count(7), 0);
         Check.due("settle(60)", x.settle(60), true);
         Check.due("square", x.square(), 0);
         Check.due("prices", x.count(7), 95);
@@ -228,6 +240,7 @@ public final class MarketTest {
         Check.due("must(79)", x.must(79), 0);
         Check.due("must(4): 76 is the last", x.must(4), 1);
         Check.due("must(5): 95 is the last", x.must(5), 0);
+        Check.due("must(1): 19 is the last", x.must(1), 1);
         x.purse(1, 75);
         Check.due("must(4): 76 is the last", x.must(4), 0);
         Check.due("must(0)", x.must(0), -1);
@@ -281,6 +294,8 @@ public final class MarketTest {
         person(x, 100, "add 10;");
         Check.due("two others", x.ties(0), 2);
         Check.due("all others", x.ties(1), 7);
+        x.price(0, 100);
+        Check.due("dearer ones before it, too", x.ties(0), 2);
         x.price(0, 101);
         Check.due("that can be paid", x.ties(0), 1);
         Check.due("that can be paid", x.ties(1), 3);

@@ -40,6 +40,13 @@ public final class TellingTest {
         Check.due("lesson(9, 39, 40)", x.lesson(9, 39, 40), 1);
         for (int i = 2; i < 10; i++) Check.due("lesson " + i, x.lesson(1, i, i + 1), i);
         Check.due("the eleventh", x.lesson(1, 1, 2), -1);
+        LessonPurses y = new LessonPurses();
+        y.lesson(1, 0, 1);
+        y.person(0, 0);
+        Check.wish(y, 0, "add 5*has 0+has 1;");
+        Check.due("one is told", y.buys(0, 0), 1);
+        y.lesson(1, 1, 2);
+        Check.due("another one is told", y.buys(0, 0), 3);
         Check.due("ten of them", x.count(0), 10);
         Check.due("their places", x.count(6), 17);
     }

@@ -6,6 +6,7 @@ public final class WaysTest {
         mended();
         mendedOfTwo();
         mendedAdds();
+        mendedLong();
         turns();
         adding();
         bids();
@@ -104,6 +105,16 @@ public final class WaysTest {
         all("each adds one a round, without paying", x, 1, 3, 5);
         x.places(1, 2);
         all("places are enough", x, 1, 7, 3);
+    }
+
+    /** Every lesson's price must grow beyond the greatest purse, by the least step. */
+    private static void mendedLong() {
+        LessonPurses x = apart(0, 0, 0, 0, 0, 0, 0, 0, 0, 0);
+        x.step(1);
+        person(x, 200, "add count;");
+        person(x, 200, "add count*2;");
+        all("dear enough for all", x, 1, 0, 0);
+        Check.due("left", x.left(1, 9), 0);
     }
 
     private static void turns() {

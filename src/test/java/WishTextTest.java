@@ -94,6 +94,13 @@ public final class WishTextTest {
         bad("ADD 5;", 0);
         bad("adds 5;", 0);
         bad("addif 5;", 0);
+        bad("addz 5;", 0);
+        bad("adda 5;", 0);
+        bad("bdd 5;", 0);
+        bad("adc 5;", 0);
+        bad("add fount;", 4);
+        bad("add purs;", 4);
+        bad("add pursee;", 4);
         bad(";", 0);
         bad("5;", 0);
         bad("add 5;;", 6);
@@ -171,6 +178,10 @@ public final class WishTextTest {
         good("add " + "1+".repeat(197) + "1;", 1, 198);
         bad("add " + "1+".repeat(198), 400);
         bad(TEN.repeat(40), 0);
+        bad(";".repeat(400), 0);
+        bad("add " + "(".repeat(396), 13);
+        bad("add " + "1-".repeat(197) + "1)", 399);
+        good("add " + "1-".repeat(10) + "1 if " + "1<2 or ".repeat(50) + "1<2;", 1, -9);
     }
 
     private static void faultOrNone() {

@@ -47,7 +47,6 @@ public final class LessonPurses {
         fairness = new Fairness(plan, crowd, ways);
         ending = new Ending(plan, crowd, ways);
         liar = new Person(0, 0);
-        lieTold = false;
         faultPlace = NONE;
     }
 
@@ -801,7 +800,6 @@ public final class LessonPurses {
         void standFor(Person other) {
             money = other.money;
             done = other.done;
-            handed = other.handed;
             fresh = false;
         }
 

@@ -2,20 +2,31 @@
 final class Check {
     private static int right = 0;
     private static int wrong = 0;
+    private static String sentence = "";
 
     private Check() { }
+
+    /** The promise, and the words of the document, that the answers from now on are about. DocumentTest reads these. */
+    static void about(int promise, String words) {
+        sentence = "promise " + promise + ", \"" + words + "\": ";
+    }
 
     static void due(String what, long got, long want) {
         if (got == want) {
             right++;
         } else {
             wrong++;
-            System.out.println(what + " answered " + got + ", due is " + want);
+            System.out.println(sentence + what + " answered " + got + ", due is " + want);
         }
     }
 
     static void due(String what, boolean got, boolean want) {
         due(what, got ? 1 : 0, want ? 1 : 0);
+    }
+
+    static void same(String what, String got, String want) {
+        due(what, got.equals(want), true);
+        if (!got.equals(want)) System.out.println("  before: " + want + "\n  behind: " + got);
     }
 
     /** Puts a text on the tape, blanks behind it up to a multiple of twenty: its length. */

@@ -78,7 +78,7 @@ final class PlainPurses {
     boolean purse(int person, int much) {
         if (!isHuman(person) || much < 0 || much > 200) return false;
         people.get(person).purse = much;
-        known.clear();
+        known.remove(people.get(person));
         return true;
     }
 
@@ -93,7 +93,7 @@ final class PlainPurses {
         List<String> read = read(n);
         if (read == null) return -1;
         people.get(person).wishes = read;
-        known.clear();
+        known.remove(people.get(person));
         return countStatements(read);
     }
 
@@ -728,10 +728,10 @@ final class PlainPurses {
         int honest = worthOf(h, outcome(way)[person]);
         List<String> own = h.wishes;
         h.wishes = lie;
-        known.clear();
+        known.remove(h);
         int would = outcome(way)[person];
         h.wishes = own;
-        known.clear();
+        known.remove(h);
         return worthOf(h, would) - honest;
     }
 

@@ -515,6 +515,25 @@ public final class EdgesOfFairnessTest {
         ended("nobody can go", x, 2, -1, -1, -1, -1);
         x.places(1, 3);
         ended("nobody need go", x, 2, 0, 2, 2, 2);
+        firstAndLastPlaces();
+    }
+
+    private static void firstAndLastPlaces() {
+        String wishes = "add 5*has 0+4*has 1;never if count>1;";
+        LessonPurses x = people(3, wishes, wishes, wishes);
+        give(x, 1, 1, 2);
+        x.places(0, 2);
+        ended("the first lesson: just its places", x, 2, 0, 1, 1, 2);
+        x.places(0, 1);
+        ended("the first lesson: one too many", x, 2, 1, 2, 1, 2);
+        Make.wish(x, 0, "add has 0;never if has 0=0;");
+        ended("the first lesson: the second goes", x, 2, 2, 1, 2, 2);
+        give(x, 4, 2, 4);
+        Make.wish(x, 0, "");
+        x.places(2, 2);
+        ended("the last lesson: just its places", x, 0, 0, 4, 2, 4);
+        x.places(2, 1);
+        ended("the last lesson: one too many", x, 0, 1, 0, 2, 4);
     }
 
     private static void fewLawful() {

@@ -13,6 +13,7 @@ public final class EdgesOfTellingTest {
         purses();
         prices();
         steps();
+        toldLater();
         counts();
         Check.end("EdgesOfTellingTest");
     }
@@ -308,6 +309,28 @@ public final class EdgesOfTellingTest {
         Snapshot.refused("step(0)", Make::busy, y -> y.step(0) ? 1 : 0, 0);
         Snapshot.refused("step(51)", Make::busy, y -> y.step(51) ? 1 : 0, 0);
         Snapshot.refused("step(-1)", Make::busy, y -> y.step(-1) ? 1 : 0, 0);
+    }
+
+    /** What was asked before doesn't stay when more is told. */
+    private static void toldLater() {
+        LessonPurses x = lessons(9);
+        Make.person(x, 0, "add has 8+2*has 9-5*has 0;");
+        Make.person(x, 0, "add has 8+2*has 9-has 0;");
+        Check.due("nine are told", x.buys(0, 0), 256);
+        Check.due("nine are told", x.buys(1, 0), 256);
+        Check.about(2, "A LESSON: its number.");
+        Check.due("a tenth", x.lesson(1, 36, 40), 9);
+        Check.due("it's bought", x.buys(0, 0), 768);
+        Check.due("it's bought", x.buys(1, 0), 768);
+        Check.about(4, "A LESSON comes AFTER another one: how many such there are.");
+        Check.due("after(9, 0)", x.after(9, 0), 1);
+        Check.due("not with what it comes after", x.buys(0, 0), 256);
+        Check.due("with what it comes after", x.buys(1, 0), 769);
+        Check.about(5, "MOST: true;");
+        Check.due("most(2)", x.most(2), true);
+        Check.due("all three are too many", x.buys(1, 0), 256);
+        Check.due("most(3)", x.most(3), true);
+        Check.due("all three", x.buys(1, 0), 769);
     }
 
     private static void counts() {

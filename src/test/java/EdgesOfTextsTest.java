@@ -7,6 +7,8 @@ public final class EdgesOfTextsTest {
         feed();
         fourHundred();
         firstBytes();
+        cutInTokens();
+        longTexts();
         refusedWishes();
         faultsKeepWishes();
         falsely();
@@ -18,6 +20,7 @@ public final class EdgesOfTextsTest {
         numbers();
         behindHas();
         tokensAsLongAsTheyGo();
+        everyLetter();
         everyByte();
         nineOpen();
         sixteenStatements();
@@ -93,6 +96,57 @@ public final class EdgesOfTextsTest {
         Check.due("nothing in place of them", x.wish(0, 0), 0);
         Check.due("one's", x.bars(0, 0), 0);
         Check.due("the other's stay", x.worth(1, 0), 30);
+    }
+
+    /** The first n bytes of a text; what is behind them is nothing to it, though the token would go on there. */
+    private static void cut(String text, int n, int statements, int place) {
+        LessonPurses x = one();
+        Check.feed(x, text);
+        Check.due(n + " bytes of " + text, x.wish(0, n), statements);
+        Check.due(n + " bytes of " + text + ": fault", x.fault(), place);
+        Check.feed(x, text);
+        Check.due(n + " bytes of " + text + ", falsely", x.falsely(n), statements);
+        Check.due(n + " bytes of " + text + ", falsely: fault", x.fault(), place);
+    }
+
+    private static void cutInTokens() {
+        Check.about(9, "The first n bytes of the tape (which is empty then) are the WISHES of somebody, in place of those that were: "
+            + "how many statements.");
+        cut("add hours;", 8, -1, 4);
+        cut("add hours;", 9, -1, 9);
+        cut("add hours;", 10, 1, -1);
+        cut("never;", 4, -1, 0);
+        cut("never;", 5, -1, 5);
+        cut("never;", 6, 1, -1);
+        cut("add 123456;", 8, -1, 8);
+        cut("add 123456;", 9, -1, 9);
+        cut("add 123456;", 10, -1, 4);
+        cut("add has 10;", 9, -1, 9);
+        cut("add has 10;", 10, -1, 8);
+        cut("add 7if 1<2;", 6, -1, 5);
+        cut("add 7if 1<2;", 7, -1, 7);
+        cut("add 7;add 8;", 5, -1, 5);
+        cut("add 7;add 8;", 6, 1, -1);
+        cut("add 7;add 8;", 7, -1, 6);
+    }
+
+    /** Texts of 399 and 400 bytes, some with a token for each byte. */
+    private static void longTexts() {
+        Check.about(8, "NONE, doing nothing: there would be more than 400.");
+        bad(";".repeat(399), 0);
+        bad(";".repeat(400), 0);
+        bad("add" + "(".repeat(397), 3 + 9);
+        good("add " + "1+".repeat(196) + "1; ", 1, 197);
+        good("add " + "1+".repeat(197) + "1;", 1, 198);
+        bad("add " + "1+".repeat(197) + "1", 399);
+        bad("add " + "1+".repeat(198), 400);
+        bad("add " + "1+".repeat(197) + "+;", 398);
+        good("add 7;" + " ".repeat(394), 1, 7);
+        good(" ".repeat(394) + "add 7;", 1, 7);
+        bad(" ".repeat(395) + "add 7", 400);
+        bad(" ".repeat(399) + ";", 399);
+        good(" ".repeat(400), 0, 0);
+        good("add has 0;".repeat(15) + " ".repeat(240) + "add has 0;", 16, 16);
     }
 
     private static void refusedWishes() {
@@ -377,6 +431,28 @@ public final class EdgesOfTextsTest {
         bad("add co unt;", 4);
         bad("a", 0);
         bad("never if 1<=2;", 11);
+    }
+
+    /** Each word with one letter changed, one less, one more, and one great one. */
+    private static void everyLetter() {
+        Check.about(9, "Tokens as long as they go: words of letters a to z, digits, signs;");
+        String[] texts = {
+            "add 7;", "never;", "add 7 if 1<2;", "never if 1<2 or 1<2;", "never if 1<2 and 1<2;", "never if not 1<2;", "add has 1;",
+            "add count;", "add hours;", "add first;", "add last;", "add gaps;", "add purse;"
+        };
+        String[] words = {"add", "never", "if", "or", "and", "not", "has", "count", "hours", "first", "last", "gaps", "purse"};
+        for (int i = 0; i < words.length; i++) {
+            String word = words[i];
+            int place = texts[i].indexOf(word);
+            Check.due(texts[i], Check.wish(one(), 0, texts[i]), 1);
+            for (int at = 0; at < word.length(); at++) {
+                bad(texts[i].replace(word, word.substring(0, at) + "z" + word.substring(at + 1)), place);
+                bad(texts[i].replace(word, word.substring(0, at) + word.substring(at + 1)), place);
+                bad(texts[i].replace(word, word.substring(0, at) + "z" + word.substring(at)), place);
+                bad(texts[i].replace(word, word.substring(0, at) + (char) (word.charAt(at) - 32) + word.substring(at + 1)), place);
+            }
+            bad(texts[i].replace(word, word + "z"), place);
+        }
     }
 
     /** Each byte between "add" and "5;": what it makes of the text. */

@@ -10,6 +10,7 @@ public final class EdgesOfBundlesTest {
         theFirstThatHolds();
         hasAndCount();
         hoursOfBundles();
+        askedOneAfterAnother();
         notToldHaveNoHours();
         purses();
         heldResults();
@@ -120,6 +121,10 @@ public final class EdgesOfBundlesTest {
         y.person(10, 0);
         Check.due("the last two of ten", y.bars(0, 768), 3);
         Check.due("the last one with another one", y.bars(0, 640), 0);
+        LessonPurses z = new LessonPurses();
+        for (int i = 0; i < 4; i++) z.lesson(1, 3 * i / 2, 5);
+        z.person(10, 0);
+        for (int bundle = 0; bundle < 16; bundle++) Check.due("all clash: bundle " + bundle, z.bars(0, bundle), Integer.bitCount(bundle) > 1 ? 3 : 0);
     }
 
     private static void afters() {
@@ -278,6 +283,23 @@ public final class EdgesOfBundlesTest {
         asks("add gaps;", 3, -1);
         asks("add gaps;", 5, 15);
         asks("add gaps;", 24, 38);
+    }
+
+    /** What was asked before of another bundle is nothing to this one. */
+    private static void askedOneAfterAnother() {
+        Check.about(13, "first: the least from; last: the greatest to (both 0 without LESSONS);");
+        LessonPurses x = new LessonPurses();
+        int[][] hours = {{3, 5}, {6, 9}, {20, 21}, {39, 40}};
+        for (int[] h : hours) x.lesson(1, h[0], h[1]);
+        Make.person(x, 7, "add 10000*first+100*last+hours;add 20000*10*has 2;never if count=2;");
+        int[][] due = {
+            {0, 0, 0}, {15, 34007 + 200000, 0}, {0, 0, 0}, {8, 394001, 0}, {1, 30502, 0}, {12, 204002 + 200000, 5},
+            {512, 0, 1}, {2, 60903, 0}, {3, 30905, 5}, {0, 0, 0}
+        };
+        for (int[] d : due) {
+            Check.due("worth(0, " + d[0] + ")", x.worth(0, d[0]), d[1]);
+            Check.due("bars(0, " + d[0] + ")", x.bars(0, d[0]), d[2]);
+        }
     }
 
     private static void notToldHaveNoHours() {

@@ -289,6 +289,18 @@ public final class EdgesOfTextsTest {
         good("add 1 if not 1=1 or 1=1;add 2 if not 1=2 and 1=2;", 2, 1);
         good("add 1 if 1<2;add 2 if 2<2;add 4 if 3<2;add 8 if 1>2;add 16 if 2>2;add 32 if 3>2;", 6, 33);
         good("add 1 if 1=2;add 2 if 2=2;add 4 if 3=2;add 8 if 1+1=4/2;", 4, 10);
+        joined("1<2", true);
+        joined("2<2", false);
+        joined("2>1", true);
+        joined("2>2", false);
+        joined("2=2", true);
+        joined("2=1", false);
+        joined("[1<2]", true);
+        joined("not 2>1", false);
+        joined("not 2=1", true);
+        joined("[2>1 and 2=2]", true);
+        joined("[1>2 or 2=1]", false);
+        joined("[1<2 or 2>1]", true);
         Check.about(9, "WORD: count, hours, first, last, gaps, purse.");
         good("add count;add hours;add first;add last;add gaps;add purse;", 6, 1 + 2 + 3 + 5 + 0 + 100);
         bad("add counts;", 4);
@@ -296,6 +308,18 @@ public final class EdgesOfTextsTest {
         bad("add place;", 4);
         bad("add purses;", 4);
         bad("add Count;", 4);
+    }
+
+    /** A condition that holds or doesn't, alone and together with others. */
+    private static void joined(String one, boolean holds) {
+        String[] all = {one, "not not " + one, one + " and 1=1", "1=1 and " + one, one + " or 1=2", "2<1 or " + one, one + " and " + one, one + " or " + one};
+        for (String any : all) {
+            good("add 7 if " + any + ";", 1, holds ? 7 : 0);
+            good("add 7 if not [" + any + "];", 1, holds ? 0 : 7);
+        }
+        good("add 7 if not " + one + ";", 1, holds ? 0 : 7);
+        good("add 7 if " + one + " and not 1=1;", 1, 0);
+        good("add 7 if " + one + " or not 1=2;", 1, 7);
     }
 
     private static final String[] TOKENS = {

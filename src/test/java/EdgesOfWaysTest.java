@@ -335,6 +335,10 @@ public final class EdgesOfWaysTest {
         LessonPurses z = people(7, "", 1, 1, 1, 1, 1, 1, 1, 1, 1, 1);
         Make.person(z, 0, "add has 9;");
         all("the last person, the last lesson", z, BIDS, 0, 0, 0, 0, 0, 0, 0, 512);
+        LessonPurses each = people(8, "add count;", 0, 0, 0, 0, 0, 0, 0, 0, 0, 8);
+        all("each for each lesson: the last of eighty, too", each, BIDS, 512, 512, 512, 512, 512, 512, 512, 512);
+        each.places(9, 7);
+        all("each for each lesson: no place for the last one", each, BIDS, 512, 512, 512, 512, 512, 512, 512, 0);
     }
 
     private static void bidsLawful() {

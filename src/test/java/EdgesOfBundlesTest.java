@@ -283,6 +283,12 @@ public final class EdgesOfBundlesTest {
         asks("add gaps;", 3, -1);
         asks("add gaps;", 5, 15);
         asks("add gaps;", 24, 38);
+        LessonPurses x = new LessonPurses();
+        int[][] hours = {{20, 21}, {7, 9}, {0, 30}, {5, 36}, {10, 12}};
+        for (int[] h : hours) x.lesson(1, h[0], h[1]);
+        Make.person(x, 1, "add 10000*first+100*last+hours;");
+        int[][] due = {{3, 72103}, {18, 71204}, {17, 102103}, {6, 3032}, {12, 3661}, {28, 3663}, {10, 53633}, {24, 53633}, {31, 3666}};
+        for (int[] d : due) Check.due("first, last, hours of " + d[0], x.worth(0, d[0]), d[1]);
     }
 
     /** What was asked before of another bundle is nothing to this one. */

@@ -198,6 +198,16 @@ public final class EdgesOfFairnessTest {
         wasted("it's there already, though it's a burden", x, HAND);
         give(x, 1, 0);
         wasted("it isn't there", x, HAND, 0, 1, 0, 10);
+        Make.wish(x, 0, "add 5*has 1;");
+        Make.wish(x, 1, "add 0-5*has 0;");
+        give(x, 1, 1);
+        wasted("it's there already, though it's a burden to the greater", x, HAND);
+        give(x, 1 + 4, 1 + 2);
+        wasted("it's there already: another one for another one", x, HAND, 0, 1, 2, 1);
+        give(x, 2, 1);
+        wasted("it isn't there", x, HAND, 0, 1, 10, 0);
+        Make.wish(x, 0, "add 0-5*has 0;");
+        Make.wish(x, 1, "add 5*has 1;");
         give(x, 1 + 2, 0);
         wasted("nothing for the burden comes first", x, HAND, 0, 1, 0, 10);
         give(x, 0, 0);
@@ -257,6 +267,18 @@ public final class EdgesOfFairnessTest {
         wasted("the lesser of one less", x, HAND);
         Make.wish(x, 0, "add 4*has 0+5*has 1;");
         wasted("both of more", x, HAND, 0, 1, 0, 1);
+        Make.wish(x, 0, "add 6*has 0+5*has 1;");
+        Make.wish(x, 1, "add 95*has 0+5*has 1;");
+        wasted("the lesser of one less, the greater of much more", x, HAND);
+        Make.wish(x, 0, "add 5*has 0+5*has 1;never if has 1=1;");
+        wasted("not lawful for the lesser, the greater of much more", x, HAND);
+        Make.wish(x, 0, "add 5*has 0+95*has 1;");
+        Make.wish(x, 1, "add 5*has 0+6*has 1;");
+        wasted("the greater of one less, the lesser of much more", x, HAND);
+        Make.wish(x, 1, "add 6*has 0+5*has 1;never if has 0=1;");
+        wasted("not lawful for the greater, the lesser of much more", x, HAND);
+        Make.wish(x, 1, "add 5*has 0+5*has 1;");
+        wasted("the lesser of much more", x, HAND, 0, 1, 0, 1);
         Check.about(30, "NONE: none, none such.");
         Check.due("one alone", people(1, "add has 0;").waste(HAND, 0), -1);
         Check.due("nobody", Make.apart(1).waste(HAND, 0), -1);
@@ -534,6 +556,17 @@ public final class EdgesOfFairnessTest {
         ended("the last lesson: just its places", x, 0, 0, 4, 2, 4);
         x.places(2, 1);
         ended("the last lesson: one too many", x, 0, 1, 0, 2, 4);
+        LessonPurses y = people(4, "add has 1;", "add has 2;", "add has 1+has 2+has 3;");
+        y.places(1, 1);
+        y.places(2, 1);
+        give(y, 2, 4, 2 + 4);
+        ended("one in place of two of lesser numbers", y, 0, 4, 2, 4, 8);
+        give(y, 2, 4, 2);
+        ended("the least bits of one", y, 0, 1, 0, 4, 2);
+        give(y, 2 + 4, 4, 2);
+        ended("one who has both", y, 0, 1, 0, 4, 2);
+        give(y, 4, 2 + 4, 2);
+        ended("one who has both", y, 0, 2, 4, 0, 2);
     }
 
     private static void fewLawful() {

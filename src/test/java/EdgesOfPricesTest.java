@@ -393,6 +393,16 @@ public final class EdgesOfPricesTest {
         fitted("all at once, if it's less", x, 1, 2, 1, 5, 0, 5);
     }
 
+    private static LessonPurses threeBuyers(int price, int other) {
+        LessonPurses x = Make.apart(1, 2);
+        Make.person(x, 39, "add 3*has 0+7*has 1;");
+        Make.person(x, 23, "add 8*has 0+has 1;");
+        Make.person(x, 21, "add 7*has 0+3*has 1;");
+        x.price(0, price);
+        x.price(1, other);
+        return x;
+    }
+
     /** Kept rows are told apart by what would happen with one more or less of them. */
     private static void fitLastEight() {
         Check.about(20, "of other rows, none of them among the last eight gone to (the first one, too; as many as there are):");
@@ -400,6 +410,16 @@ public final class EdgesOfPricesTest {
         Make.person(x, 37, "add 9*has 0+1*has 1+9*has 2;");
         Make.person(x, 22, "add 8*has 0+4*has 1+3*has 2;");
         Check.due("with seven it would end at 20, with nine at 16", x.fit(60, 1), 60);
+        Check.due("with seven it would end at 14, with nine at 12, with none after all", threeBuyers(10, 5).fit(60, 1), 18);
+        LessonPurses other = Make.apart(2, 1);
+        Make.person(other, 22, "add 3*has 0+6*has 1;");
+        Make.person(other, 35, "add 7*has 0+4*has 1;");
+        Make.person(other, 24, "add 4*has 0+5*has 1;");
+        other.price(1, 15);
+        Check.due("with seven it would go on, with nine it would end at 12", other.fit(60, 1), 20);
+        Check.due("till then it goes on", other.fit(19, 1), 19);
+        Check.due("till then it goes on", threeBuyers(10, 5).fit(17, 1), 17);
+        Check.due("as many as there are: eight steps", threeBuyers(10, 5).fit(8, 1), 8);
         LessonPurses y = wanted(1, 2, 100, 100);
         fitted("the first one, too: back isn't one of the rows", y, 60, 1, 1, 100);
         y.price(0, 105);

@@ -14,6 +14,7 @@ public final class EdgesOfWaysTest {
         priced();
         mendedRaises();
         mendedTheGreatest();
+        mendedByTurns();
         mendedFar();
         mendedAdds();
         turns();
@@ -170,6 +171,32 @@ public final class EdgesOfWaysTest {
         z.places(0, 0);
         z.places(1, 0);
         all("till none is over", z, MENDED, 0, 0, 0, 0, 0);
+    }
+
+    /** Lessons of the same worth, whose prices overtake one another. */
+    private static void mendedByTurns() {
+        Check.about(25, "1 MENDED: as long as some LESSON is OVER above 0, the PRICE of that with the greatest OVER (of several the least) grows by STEP "
+            + "(it may be above 250 here);");
+        LessonPurses x = people(2, "add 5*has 0+5*has 1;never if count>1;", 2, 1);
+        x.purse(0, 20);
+        x.purse(1, 12);
+        x.price(0, 10);
+        x.price(1, 9);
+        all("the first lesson is the cheaper one then", x, MENDED, 1, 1);
+        x.price(0, 13);
+        all("the first one can't be paid by one", x, MENDED, 1, 1);
+        x.places(1, 2);
+        all("both have the second lesson", x, MENDED, 2, 2);
+        x.places(0, 1);
+        x.places(1, 1);
+        x.purse(1, 20);
+        x.price(0, 10);
+        all("till both are too dear: the first takes the first", x, MENDED, 1, 2);
+        x.purse(0, 24);
+        x.purse(1, 25);
+        all("the second lesson for 24, then the first for 25, and the other one adds", x, MENDED, 2, 1);
+        Make.wish(x, 0, "add 5*has 0+5*has 1+has 1;never if count>1;");
+        all("one more worth", x, MENDED, 2, 1);
     }
 
     private static void mendedFar() {

@@ -617,6 +617,12 @@ public final class EdgesOfPricesTest {
         Check.due("lawful ones", x.ties(0), 1);
         x.wish(0, 0);
         Check.due("all others", x.ties(0), 7);
+        Make.wish(x, 0, "add 10000*100;");
+        Check.due("all others, of the most worth", x.ties(0), 7);
+        for (int i = 0; i < 3; i++) x.price(i, 99 + i);
+        Check.due("those to be paid, of the most worth", x.ties(0), 2);
+        for (int i = 0; i < 3; i++) x.price(i, 0);
+        x.wish(0, 0);
         Check.about(34, "TIES.");
         x.most(1);
         Check.due("three others", x.ties(0), 3);

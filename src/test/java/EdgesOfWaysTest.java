@@ -262,6 +262,9 @@ public final class EdgesOfWaysTest {
         Make.wish(x, 1, "add 5*count;");
         Make.wish(x, 0, "add 0-count;");
         all("the last one alone goes on", x, TURNS, 0, 63);
+        Make.wish(x, 1, "add 9*has 0+8*has 2+7*has 5+6*has 1;");
+        all("each in its turn", x, TURNS, 0, 39);
+        all("each in its turn", x, BIDS, 0, 39);
         Make.wish(x, 1, "add 0-count;");
         all("nobody begins", x, TURNS, 0, 0);
         Check.due("no people", Make.apart(1).left(TURNS, 0), 1);

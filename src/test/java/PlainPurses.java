@@ -115,6 +115,9 @@ final class PlainPurses {
 
     // ---- the text: a stack of what must still come, and the one token ahead
 
+    /** Behind the last token; no sign of a text may be taken for it. */
+    static final String END = "";
+
     List<String> read(int n) {
         String text = tape.substring(0, n);
         tape.setLength(0);
@@ -131,7 +134,7 @@ final class PlainPurses {
             places.add(at);
             at = end;
         }
-        tokens.add("$");
+        tokens.add(END);
         places.add(n);
         int bad = firstBad(tokens);
         faultPlace = bad < 0 ? -1 : places.get(bad);
@@ -153,11 +156,11 @@ final class PlainPurses {
         int i = 0;
         while (i < tokens.size()) {
             String t = tokens.get(i);
-            String want = due.isEmpty() ? "$" : due.remove(due.size() - 1);
+            String want = due.isEmpty() ? END : due.remove(due.size() - 1);
             switch (want) {
                 case "CLOSE" -> open--;
                 case "STATEMENTS" -> {
-                    if (t.equals("$")) return -1;
+                    if (t.equals(END)) return -1;
                     if (statements++ == 16) return i;
                     if (t.equals("add")) { push(due, "STATEMENTS", ";", "IF?", "EX"); i++; }
                     else if (t.equals("never")) { push(due, "STATEMENTS", ";", "IF?"); i++; }
